@@ -728,7 +728,6 @@ public final class LastThree {
         final int[] comers = new int[MOST_WISHES];
         /** How many have what they wish for; below 0: there is no such order. */
         int most;
-        private Plan plan;
         private int set = -1;
         /** For each i the bits of those lower ones that wish alike and are as he is in the set or not. */
         private final int[] alike = new int[MOST_WISHES];
@@ -742,21 +741,20 @@ public final class LastThree {
             set = -1;
         }
 
-        void find(Plan from, int wanted) {
+        void find(Plan plan, int wanted) {
             if (set == wanted) {
                 return;
             }
-            plan = from;
             set = wanted;
             Arrays.fill(known, 0);
-            findAlike();
-            most = mostLeft(0, plan.pairAhead(), 0);
+            findAlike(plan);
+            most = mostLeft(plan, 0, plan.pairAhead(), 0);
             if (most >= 0) {
-                followMost();
+                followMost(plan);
             }
         }
 
-        private void findAlike() {
+        private void findAlike(Plan plan) {
             for (int i = 0; i < plan.wishCount; i++) {
                 alike[i] = 0;
                 for (int j = 0; j < i; j++) {
@@ -768,12 +766,12 @@ public final class LastThree {
         }
 
         /** Of those who are alike the lowest comes first: the others would change no gift. */
-        private boolean mayCome(int i, int come) {
+        private boolean mayCome(Plan plan, int i, int come) {
             return !plan.isIn(come, i) && (alike[i] & ~come) == 0;
         }
 
         /** The most of those left who have what they wish for, when some have come and a pair was asked last. */
-        private int mostLeft(int come, int pair, int depth) {
+        private int mostLeft(Plan plan, int come, int pair, int depth) {
             if (depth >= plan.wishCount) {
                 return 0;
             }
@@ -785,42 +783,42 @@ public final class LastThree {
             }
             int best = IMPOSSIBLE;
             for (int i = 0; i < plan.wishCount; i++) {
-                if (mayCome(i, come)) {
-                    best = Math.max(best, mostIfComes(i, come, pair, depth));
+                if (mayCome(plan, i, come)) {
+                    best = Math.max(best, mostIfComes(plan, i, come, pair, depth));
                 }
             }
             known[place] |= best + 2 << shift;
             return best;
         }
 
-        private int mostIfComes(int i, int come, int pair, int depth) {
+        private int mostIfComes(Plan plan, int i, int come, int pair, int depth) {
             boolean has = plan.hasBehind(pair, i);
             if (!has && plan.isIn(set, i)) {
                 return IMPOSSIBLE;
             }
-            int left = mostLeft(come | 1 << i, pairBehind(pair, i), depth + 1);
+            int left = mostLeft(plan, come | 1 << i, pairBehind(plan, pair, i), depth + 1);
             return has && left >= 0 ? left + 1 : left;
         }
 
-        private int pairBehind(int pair, int i) {
+        private int pairBehind(Plan plan, int pair, int i) {
             return pair % SIGNS * SIGNS + plan.wishes[i];
         }
 
-        private void followMost() {
+        private void followMost(Plan plan) {
             int come = 0;
             int pair = plan.pairAhead();
             for (int depth = 0; depth < plan.wishCount; depth++) {
-                int next = firstOfMost(come, pair, depth);
+                int next = firstOfMost(plan, come, pair, depth);
                 comers[depth] = next;
                 come |= 1 << next;
-                pair = pairBehind(pair, next);
+                pair = pairBehind(plan, pair, next);
             }
         }
 
-        private int firstOfMost(int come, int pair, int depth) {
-            int goal = mostLeft(come, pair, depth);
+        private int firstOfMost(Plan plan, int come, int pair, int depth) {
+            int goal = mostLeft(plan, come, pair, depth);
             for (int i = 0; i < plan.wishCount; i++) {
-                if (mayCome(i, come) && mostIfComes(i, come, pair, depth) == goal) {
+                if (mayCome(plan, i, come) && mostIfComes(plan, i, come, pair, depth) == goal) {
                     return i;
                 }
             }
@@ -836,7 +834,6 @@ public final class LastThree {
         /** How many of the queue are ahead of each stranger. */
         final int[] places = new int[MOST_STRANGERS];
         int many;
-        private Plan plan;
         private int set = -1;
         /** The fewest from the i-th of the queue on, behind a pair of asks: at i * PAIRS + pair. */
         private final int[] fewest = new int[(MOST_WISHES + 1) * PAIRS];
@@ -850,29 +847,28 @@ public final class LastThree {
             return many <= MOST_STRANGERS && i >= 0 && i < many;
         }
 
-        void find(Plan from, int wanted) {
+        void find(Plan plan, int wanted) {
             if (set == wanted) {
                 return;
             }
-            plan = from;
             set = wanted;
             Arrays.fill(fewest, 0);
             for (int i = plan.wishCount - 1; i >= 0; i--) {
-                findFewest(i);
+                findFewest(plan, i);
             }
             many = fewest[plan.pairAhead()];
             if (many <= MOST_STRANGERS) {
-                follow();
+                follow(plan);
             }
         }
 
         /** Two strangers make any pair of asks, so that more than two ahead of one are never needed. */
-        private void findFewest(int i) {
+        private void findFewest(Plan plan, int i) {
             int behindTwo = TOO_MANY;
             for (int last = 0; last < SIGNS; last++) {
                 fewestBehind[last] = TOO_MANY;
                 for (int thing = 0; thing < plan.things; thing++) {
-                    int cost = costAtOnce(i, last * SIGNS + thing);
+                    int cost = costAtOnce(plan, i, last * SIGNS + thing);
                     fewestBehind[last] = Math.min(fewestBehind[last], cost);
                 }
                 if (last < plan.things) {
@@ -880,24 +876,24 @@ public final class LastThree {
                 }
             }
             for (int pair = 0; pair < PAIRS; pair++) {
-                int cost = Math.min(costAtOnce(i, pair), behindTwo + 2);
+                int cost = Math.min(costAtOnce(plan, i, pair), behindTwo + 2);
                 fewest[i * PAIRS + pair] = Math.min(cost, fewestBehind[pair % SIGNS] + 1);
             }
         }
 
-        private int costAtOnce(int i, int pair) {
+        private int costAtOnce(Plan plan, int i, int pair) {
             if (plan.isIn(set, i) && !plan.hasBehind(pair, i)) {
                 return TOO_MANY;
             }
             return fewest[(i + 1) * PAIRS + pair % SIGNS * SIGNS + plan.wishes[i]];
         }
 
-        private void follow() {
+        private void follow(Plan plan) {
             int i = 0;
             int pair = plan.pairAhead();
             int come = 0;
             for (int step = 0; step < MOST_WISHES + MOST_STRANGERS && i < plan.wishCount; step++) {
-                int ask = firstStranger(i, pair);
+                int ask = firstStranger(plan, i, pair);
                 if (ask == NONE) {
                     ask = plan.wishes[i];
                     i++;
@@ -911,9 +907,9 @@ public final class LastThree {
         }
 
         /** The stranger who comes ahead of the i-th, or NONE if the i-th comes himself. */
-        private int firstStranger(int i, int pair) {
+        private int firstStranger(Plan plan, int i, int pair) {
             int goal = fewest[i * PAIRS + pair];
-            boolean comes = costAtOnce(i, pair) == goal;
+            boolean comes = costAtOnce(plan, i, pair) == goal;
             int below = comes ? plan.wishes[i] : plan.things;
             for (int thing = 0; thing < below; thing++) {
                 if (fewest[i * PAIRS + pair % SIGNS * SIGNS + thing] + 1 == goal) {

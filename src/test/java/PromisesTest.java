@@ -181,6 +181,38 @@ public final class PromisesTest {
         due("count(6)", x.count(6), 0);
         due("post(0, 1)", x.post(0, 1), 1);
         due("back()", x.back(), NO);
+        layingAnew();
+    }
+
+    private static void layingAnew() {
+        LastThree x = laid("t2;m3;b0;b1;q1;q1;c0,3;v0,1,4;p0,1,1,1;");
+        x.wipe();
+        put(x, "t6;m1;q5;q5;q5;q6;");
+        due("fault()", x.fault(), 15);
+        due("lay()", x.lay(), NO);
+        int[] counts = {2, 2, 2, 1, 0, 18, 0, 3};
+        for (int what = 0; what < 8; what++) {
+            due("count(" + what + "), as laid ahead", x.count(what), counts[what]);
+        }
+        due("given(1), as laid ahead", x.given(1), 1);
+        due("worth(0, 1), as laid ahead", x.worth(0, 1), 4);
+        due("post(0, 3), as laid ahead", x.post(0, 3), 1);
+        x.wipe();
+        put(x, "t2;m3;b0;b1;q1;q1;c0,3;v0,1,4;v0,0,4;p0,1,1,1;");
+        due("lay() once more", x.lay(), 2);
+        for (int times = 0; times < 2; times++) {
+            x.wipe();
+            put(x, "q3;");
+            due("lay() with nothing else told", x.lay(), 1);
+            int[] plain = {1, 4, 0, 0, 0, 3, 0, 0};
+            for (int what = 0; what < 8; what++) {
+                due("count(" + what + "), nothing else told", x.count(what), plain[what]);
+            }
+            due("worth(0, 1), nothing told", x.worth(0, 1), 0);
+            due("worth(0, 0), nothing told", x.worth(0, 0), 9);
+            x.gift(6);
+            due("rows(1), nothing told", x.rows(1), 4);
+        }
     }
 
     private static void worths() {
@@ -286,6 +318,7 @@ public final class PromisesTest {
         due("ahead(7, 0)", x.ahead(7, 0), 0);
         due("ahead(7, 1)", x.ahead(7, 1), 0);
         due("ahead(7, 2)", x.ahead(7, 2), NONE);
+        due("ahead(7, 11)", x.ahead(7, 11), NONE);
         due("ahead(7, -1)", x.ahead(7, -1), BAD);
         due("ahead(7, 12)", x.ahead(7, 12), BAD);
         due("ahead(8, 0)", x.ahead(8, 0), BAD);
