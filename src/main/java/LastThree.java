@@ -458,8 +458,9 @@ public final class LastThree {
 
         /** Whether the i-th is given what he wishes for behind a pair of asks. */
         boolean hasBehind(int pair, int i) {
+            // THREE: his own ask is one of them, so that one more like it makes two
             int wish = wishes[i];
-            return givesBehind(kind, pair / SIGNS, pair % SIGNS, wish) == wish;
+            return pair % SIGNS == wish || kind == THREE && pair / SIGNS == wish;
         }
 
         boolean setThings(int many) {

@@ -551,7 +551,7 @@ public final class PromisesTest {
         due("before()", laid("t2;q0;p0,0,0,1;").before(), 0);
         due("before(), the second post feeds nobody", laid("t6;q0;p0,0,0,0;p0,0,0,0;").before(), 343);
         due("before(), fed alike but asked otherwise", laid("q0;p0,0,0,0;p0,1,1,1;").before(), 0);
-        due("before(), beyond an int", laid("t6;q0;" + repeat("p0,0,0,0;", 6)).before(), 1977326743L);
+        due("before(), the most there can be", laid("t6;q0;" + repeat("p0,0,0,0;", 6)).before(), 1977326743L);
         due("before() without posts", new LastThree().before(), NO);
     }
 
