@@ -54,11 +54,14 @@ public final class RulesTest {
         for (Class<?> type : LastThree.class.getDeclaredClasses()) {
             hold(Modifier.isStatic(type.getModifiers()), type + " is static");
             for (Method method : type.getDeclaredMethods()) {
+                hold(method.getParameterCount() <= 7, method + " takes seven at most");
                 hold(!names.contains(method.getName()), method + " bears no name of a public one");
             }
             hold(type.getDeclaredFields().length <= 24, type + " has few fields");
         }
+        hold(LastThree.class.getDeclaredClasses().length < 12, "the file has twelve classes at most");
         for (Method method : LastThree.class.getDeclaredMethods()) {
+            hold(method.getParameterCount() <= 7, method + " takes seven at most");
             boolean hidden = Modifier.isPrivate(method.getModifiers());
             hold(!hidden || !names.contains(method.getName()), method + " bears no name of a public one");
         }
